@@ -40,26 +40,26 @@ public final class BitsTest {
     Due.bits("after read(" + type + ", 3)", codec, due);
   }
 
-  /** Makes these the bits: writes them as 64 numbers of the last type, and cuts off what is over. */
+  /** Makes these the bits: writes them as octets, by the last type, and cuts off what is over. */
   private static void make(BitNotation codec, String digits) {
-    String wanted = digits.replace(" ", "");
+    StringBuilder wanted = new StringBuilder(digits.replace(" ", ""));
+    int left = wanted.length();
+    while (wanted.length() < 64) {
+      wanted.append('0');
+    }
     codec.forget();
     codec.tell(8);
-    for (int i = 0; i < 64; i++) {
-      if (i % 8 == 0) {
-        codec.tell(8);
-      }
-      codec.tell(i < wanted.length() ? wanted.charAt(i) - '0' : 0);
+    for (int i = 0; i < 8; i++) {
+      codec.tell(Integer.parseInt(wanted.substring(i * 8, i * 8 + 8), 2));
     }
     codec.write(codec.types() - 1);
-    codec.cut(wanted.length());
+    codec.cut(left);
   }
 
-  /** A last type for make: 8 times 8 numbers of one bit. */
-  private static void addMaker(BitNotation codec) {
-    int bit = codec.addNumber(0, 1);
-    int octet = codec.addList(bit, 8, 8);
-    codec.addList(octet, 8, 8);
+  /** A last type for make: 8 octets. */
+  private static BitNotation withMaker(BitNotation codec) {
+    codec.addList(codec.addNumber(0, 255), 8, 8);
+    return codec;
   }
 
   private static void writtenNumbers() {
@@ -222,7 +222,7 @@ public final class BitsTest {
     codec.addNumber(-3, 4);
     codec.addList(0, 1, 4);
     codec.addNumber(7, 7);
-    addMaker(codec);
+    withMaker(codec);
     make(codec, "01 111 000");
     Due.answers("read of a list", 3, () -> codec.read(1, 0));
     Due.tale("after read of a list", codec, 2, 4, -3);
@@ -267,21 +267,28 @@ public final class BitsTest {
     Due.tale("after read(0, 0) of a 4", codec, 4);
   }
 
+  /** A new object with the types for a test; a new one each time, as one is good for 512 calls. */
+  private interface Types {
+    BitNotation make();
+  }
+
   /** Makes the bits and looks for their fault; reading must be refused for it, and for it alone. */
-  private static void fault(BitNotation codec, int type, int known, int due, String digits) {
+  private static void fault(Types types, int type, int known, int due, String digits) {
+    BitNotation codec = withMaker(types.make());
     make(codec, digits);
     String call = "(" + type + ", " + known + ") of " + digits;
     Due.answers("faultAt" + call, due, () -> codec.faultAt(type, known));
     Due.bits("after faultAt" + call, codec, digits);
+    Due.answers("length() after faultAt" + call, 9, codec::length);
     if (due >= 0) {
       Due.refuses("read" + call, STATE, () -> codec.read(type, known));
-      Due.answers("length() after a refused read" + call, 73, codec::length);
+      Due.answers("length() after a refused read" + call, 9, codec::length);
     } else {
       Due.answers("read" + call + " refuses nothing", 1, () -> codec.read(type, known) > 0 ? 1 : 0);
     }
   }
 
-  private static void faultsOfRanges() {
+  private static BitNotation withRanges() {
     BitNotation codec = new BitNotation();
     codec.addNumber(-3, 2);
     codec.addList(0, 1, 3);
@@ -289,23 +296,27 @@ public final class BitsTest {
     codec.part(1, false);
     codec.part(0, false);
     codec.addChoice();
-    addMaker(codec);
-    fault(codec, 0, 0, -1, "101");
-    fault(codec, 0, 0, 0, "110");
-    fault(codec, 1, 0, -1, "10 000 001 010");
-    fault(codec, 1, 0, 0, "11 000 001 010");
-    fault(codec, 1, 0, 2, "10 110 111 010");
-    fault(codec, 1, 0, 5, "10 101 111 010");
-    fault(codec, 1, 0, 8, "10 101 001 111 1");
-    fault(codec, 2, 0, -1, "10 101");
-    fault(codec, 2, 0, 0, "11 101");
-    fault(codec, 2, 0, 2, "10 111");
-    fault(codec, 2, 0, -1, "01 00 101");
-    fault(codec, 2, 0, 2, "01 11 101");
-    fault(codec, 2, 0, 4, "01 00 110");
+    return codec;
   }
 
-  private static void faultsOfLackingBits() {
+  private static void faultsOfRanges() {
+    Types types = BitsTest::withRanges;
+    fault(types, 0, 0, -1, "101");
+    fault(types, 0, 0, 0, "110");
+    fault(types, 1, 0, -1, "10 000 001 010");
+    fault(types, 1, 0, 0, "11 000 001 010");
+    fault(types, 1, 0, 2, "10 110 111 010");
+    fault(types, 1, 0, 5, "10 101 111 010");
+    fault(types, 1, 0, 8, "10 101 001 111 1");
+    fault(types, 2, 0, -1, "10 101");
+    fault(types, 2, 0, 0, "11 101");
+    fault(types, 2, 0, 2, "10 111");
+    fault(types, 2, 0, -1, "01 00 101");
+    fault(types, 2, 0, 2, "01 11 101");
+    fault(types, 2, 0, 4, "01 00 110");
+  }
+
+  private static BitNotation withOptionalParts() {
     BitNotation codec = new BitNotation();
     codec.addNumber(-3, 2);
     codec.addList(0, 1, 3);
@@ -313,45 +324,58 @@ public final class BitsTest {
     codec.part(1, true);
     codec.addSequence();
     codec.extend(2, 0);
-    addMaker(codec);
-    String whole = "1 1 1 101 00 010 00 00000011 100";
-    for (int left = 0; left < 22; left++) {
-      fault(codec, 2, 1, left, whole.replace(" ", "").substring(0, left));
-      fault(codec, 2, 0, left, whole.replace(" ", "").substring(0, left));
-    }
-    fault(codec, 2, 1, -1, whole);
-    fault(codec, 2, 0, -1, whole);
-    fault(codec, 0, 0, 2, "11");
-    fault(codec, 1, 0, 1, "1");
-    fault(codec, 1, 0, 4, "01 11");
+    return codec;
   }
 
-  private static void faultsOfNumbersOfAdditions() {
+  private static void faultsOfLackingBits() {
+    Types types = BitsTest::withOptionalParts;
+    String whole = "1 1 1 101 00 010 00 00000011 100";
+    String row = whole.replace(" ", "");
+    for (int left = 0; left < row.length(); left++) {
+      fault(types, 2, 1, left, row.substring(0, left));
+      fault(types, 2, 0, left, row.substring(0, left));
+    }
+    fault(types, 2, 1, -1, whole);
+    fault(types, 2, 0, -1, whole);
+    fault(types, 0, 0, 2, "11");
+    fault(types, 1, 0, 1, "1");
+    fault(types, 1, 0, 4, "01 11");
+  }
+
+  private static BitNotation withAdditions(int additions) {
     BitNotation codec = new BitNotation();
     codec.addNumber(0, 1);
     codec.addNumber(0, 2);
     codec.part(0, false);
     codec.addSequence();
-    addMaker(codec);
-    fault(codec, 2, 3, 2, "1 1 00 00000001 1");
-    fault(codec, 2, 0, 2, "1 1 00 00000001 1");
-    fault(codec, 2, 0, 2, "1 1 11 00000001 1");
-    fault(codec, 2, 0, 3, "1 1 0");
-    codec.extend(2, 1);
-    fault(codec, 2, 3, -1, "1 1 00 00000010 10");
-    fault(codec, 2, 0, 2, "1 1 01 00000010 10 00000010 10");
-    fault(codec, 2, 1, 2, "1 1 01 00000010 11 00000010 10");
-    codec.extend(2, 1);
-    fault(codec, 2, 3, -1, "1 1 01 00000010 10 00000010 10");
-    fault(codec, 2, 3, 2, "1 1 10 00000010 10 00000010 10 00000010 10");
-    codec.extend(2, 1);
-    fault(codec, 2, 3, -1, "1 1 10 00000010 10 00000010 10 00000010 10");
-    for (int known = 0; known <= 3; known++) {
-      fault(codec, 2, known, 2, "1 1 11 00000010 10 00000010 10 00000010 10 00000010 10");
+    for (int i = 0; i < additions; i++) {
+      codec.extend(2, 1);
     }
+    return codec;
   }
 
-  private static void faultsOfLengths() {
+  private static void faultsOfNumbersOfAdditions() {
+    String one = "1 1 00 00000010 10";
+    String two = "1 1 01 00000010 10 00000010 10";
+    String three = "1 1 10 00000010 10 00000010 10 00000010 10";
+    String four = "1 1 11 00000010 10 00000010 10 00000010 10 00000010 10";
+    String[] rows = {one, two, three, four};
+    for (int additions = 0; additions <= 3; additions++) {
+      int has = additions;
+      Types types = () -> withAdditions(has);
+      for (int known = 0; known <= 3; known++) {
+        for (int there = 1; there <= 4; there++) {
+          fault(types, 2, known, there <= additions ? -1 : 2, rows[there - 1]);
+        }
+        fault(types, 2, known, 3, "1 1 0");
+        fault(types, 2, known, 3, "1 1 1");
+        fault(types, 2, known, 2, "1 1");
+      }
+    }
+    fault(() -> withAdditions(1), 2, 1, 2, "1 1 01 00000010 11 00000010 10");
+  }
+
+  private static BitNotation withListAsAddition() {
     BitNotation codec = new BitNotation();
     codec.addNumber(0, 4);
     codec.addList(0, 0, 3);
@@ -359,40 +383,48 @@ public final class BitsTest {
     codec.addSequence();
     codec.extend(2, 1);
     codec.extend(2, 0);
-    addMaker(codec);
-    fault(codec, 2, 1, -1, "1 0 00 00000101 01 100");
-    fault(codec, 2, 1, 12, "1 0 00 00000100 01 100");
-    fault(codec, 2, 1, 12, "1 0 00 00000110 01 100 0");
-    fault(codec, 2, 1, 12, "1 0 00 00000000 01 100");
-    fault(codec, 2, 1, 12, "1 0 00 11111111 01 100");
-    fault(codec, 2, 1, 14, "1 0 00 00000100 01 101");
-    fault(codec, 2, 1, 16, "1 0 00 00000010 01 10");
-    fault(codec, 2, 1, 12, "1 0 01 00000010 01 100 00000011 000");
-    fault(codec, 2, 2, 25, "1 0 01 00000101 01 100 00000010 000");
-    fault(codec, 2, 2, -1, "1 0 01 00000101 01 100 00000011 000");
-    fault(codec, 2, 2, 28, "1 1 011 01 00000101 01 100 00000111 000");
-    fault(codec, 2, 1, 27, "1 0 01 00000101 01 100 00000010 000");
+    return codec;
   }
 
-  private static void faultsBehindTheValue() {
+  private static void faultsOfLengths() {
+    Types types = BitsTest::withListAsAddition;
+    fault(types, 2, 1, -1, "1 0 00 00000101 01 100");
+    fault(types, 2, 1, 12, "1 0 00 00000100 01 100");
+    fault(types, 2, 1, 12, "1 0 00 00000110 01 100 0");
+    fault(types, 2, 1, 12, "1 0 00 00000000 01 100");
+    fault(types, 2, 1, 12, "1 0 00 11111111 01 100");
+    fault(types, 2, 1, 14, "1 0 00 00000100 01 101");
+    fault(types, 2, 1, 16, "1 0 00 00000010 01 10");
+    fault(types, 2, 1, 12, "1 0 01 00000010 01 100 00000011 000");
+    fault(types, 2, 2, 25, "1 0 01 00000101 01 100 00000010 000");
+    fault(types, 2, 2, -1, "1 0 01 00000101 01 100 00000011 000");
+    fault(types, 2, 2, 28, "1 1 011 01 00000101 01 100 00000111 000");
+    fault(types, 2, 1, 27, "1 0 01 00000101 01 100 00000010 000");
+  }
+
+  private static BitNotation withNumberAsAddition() {
     BitNotation codec = new BitNotation();
     codec.addNumber(0, 4);
     codec.addNumber(9, 9);
     codec.part(0, false);
     codec.addSequence();
     codec.extend(2, 0);
-    addMaker(codec);
-    fault(codec, 0, 0, 3, "100 0");
-    fault(codec, 0, 0, 3, "100 11111");
-    fault(codec, 0, 0, 0, "101 11111");
-    fault(codec, 1, 0, 0, "1");
-    fault(codec, 1, 0, -1, "");
-    fault(codec, 2, 0, 4, "0 100 00 00000011 100");
-    fault(codec, 2, 1, 17, "1 100 00 00000011 100 1");
-    fault(codec, 2, 0, 17, "1 100 00 00000011 100 1");
+    return codec;
   }
 
-  private static void skippedAdditions() {
+  private static void faultsBehindTheValue() {
+    Types types = BitsTest::withNumberAsAddition;
+    fault(types, 0, 0, 3, "100 0");
+    fault(types, 0, 0, 3, "100 11111");
+    fault(types, 0, 0, 0, "101 11111");
+    fault(types, 1, 0, 0, "1");
+    fault(types, 1, 0, -1, "");
+    fault(types, 2, 0, 4, "0 100 00 00000011 100");
+    fault(types, 2, 1, 17, "1 100 00 00000011 100 1");
+    fault(types, 2, 0, 17, "1 100 00 00000011 100 1");
+  }
+
+  private static BitNotation withThreeAdditions() {
     BitNotation codec = new BitNotation();
     codec.addNumber(0, 4);
     codec.addNumber(0, 8);
@@ -401,23 +433,31 @@ public final class BitsTest {
     codec.extend(2, 0);
     codec.extend(2, 1);
     codec.extend(2, 0);
-    addMaker(codec);
+    return codec;
+  }
+
+  private static void skippedAdditions() {
     String row = "1 1 0110 10 00000011 001 00000100 1000 00000011 010";
     int[][] tales = {{1, 0, 6}, {1, 1, 6, 1}, {1, 2, 6, 1, 8}, {1, 3, 6, 1, 8, 2}};
     for (int known = 0; known <= 3; known++) {
       int some = known;
+      BitNotation codec = withMaker(withThreeAdditions());
       make(codec, row);
       Due.answers("faultAt(2, " + known + ")", -1, () -> codec.faultAt(2, some));
       Due.answers("read(2, " + known + ")", 3 + known, () -> codec.read(2, some));
       Due.tale("after read(2, " + known + ")", codec, tales[known]);
       Due.bits("after read(2, " + known + ")", codec, row);
     }
-    fault(codec, 2, 0, -1, "1 0 01 00000000 00001001 111111111");
-    fault(codec, 2, 1, 12, "1 0 01 00000000 00001001 111111111");
-    fault(codec, 2, 0, -1, "1 0 00 00001000 11111111");
-    fault(codec, 2, 0, 20, "1 0 00 00001001 11111111");
-    fault(codec, 2, 0, 19, "1 0 00 00000111 11111111");
-    fault(codec, 2, 0, 12, "1 0 00 11111111");
+    Types types = BitsTest::withThreeAdditions;
+    fault(types, 2, 0, -1, "1 0 01 00000000 00001001 111111111");
+    fault(types, 2, 0, 23, "1 0 01 00000000 00001001 111");
+    fault(types, 2, 1, 12, "1 0 01 00000000 00001001 111111111");
+    fault(types, 2, 0, -1, "1 0 00 00001000 11111111");
+    fault(types, 2, 0, 20, "1 0 00 00001001 11111111");
+    fault(types, 2, 0, 19, "1 0 00 00000111 11111111");
+    fault(types, 2, 0, 12, "1 0 00 11111111");
+    fault(types, 2, 0, -1, "1 0 00 00000000");
+    fault(types, 2, 0, 10, "1 0 00 000000");
   }
 
   private static void additionsOfAdditions() {

@@ -53,7 +53,8 @@ final class Due {
 
   static void tale(String when, BitNotation codec, int... due) {
     StringBuilder got = new StringBuilder();
-    for (int i = 0; i < codec.length(); i++) {
+    int length = codec.length();
+    for (int i = 0; i < length; i++) {
       got.append(' ').append(codec.told(i));
     }
     StringBuilder wanted = new StringBuilder();
@@ -72,7 +73,8 @@ final class Due {
 
   static String bitsOf(BitNotation codec) {
     StringBuilder row = new StringBuilder();
-    for (int i = 0; i < codec.bits(); i++) {
+    int size = codec.bits();
+    for (int i = 0; i < size; i++) {
       row.append(codec.bit(i));
     }
     return row.toString();

@@ -185,26 +185,57 @@ public final class TalesTest {
     wrong(codec, 3, 4, 3, 0, 2, 1, 2, 1, 0, 1, 1, 0, 0);
     wrong(codec, 3, 7, 2, 0, 2, 1, 1, 1, 0, 3);
     wrong(codec, 3, 8, 2, 0, 2, 1, 1, 1, 0, 1, 0);
-    chainOfSixteen();
+    chainsOfSixteen();
   }
 
-  /** The deepest nest of types that there can be. */
-  private static void chainOfSixteen() {
-    BitNotation codec = new BitNotation();
-    codec.addNumber(0, 2);
-    int[] tale = new int[16];
+  /** The deepest nests of types that there can be, by each way of being made of another type. */
+  private static void chainsOfSixteen() {
+    BitNotation sequences = new BitNotation();
+    BitNotation lists = new BitNotation();
+    BitNotation choices = new BitNotation();
+    BitNotation additions = new BitNotation();
+    sequences.addNumber(0, 2);
+    lists.addNumber(0, 2);
+    choices.addNumber(0, 2);
+    additions.addNumber(0, 2);
     for (int i = 1; i < 16; i++) {
-      codec.part(i - 1, false);
-      codec.addSequence();
+      sequences.part(i - 1, false);
+      sequences.addSequence();
+      lists.addList(i - 1, 1, 1);
+      choices.part(i - 1, false);
+      choices.addChoice();
+      additions.part(0, true);
+      additions.addSequence();
+      additions.extend(i, i - 1);
     }
-    tale[15] = 2;
+    chain("sequences", sequences, "000000000000000 10", 15, row(15, new int[] {0}, 2));
+    chain("lists", lists, "10", 0, row(15, new int[] {1}, 2));
+    chain("choices", choices, "10", 0, row(15, new int[] {0}, 2));
+    StringBuilder bits = new StringBuilder("10");
+    for (int i = 1; i < 16; i++) {
+      String length = Integer.toBinaryString(256 + bits.length()).substring(1);
+      bits.insert(0, "1000" + length);
+    }
+    chain("additions", additions, bits.toString(), 180, row(15, new int[] {0, 1}, 2));
+  }
+
+  private static int[] row(int times, int[] group, int last) {
+    int[] row = new int[times * group.length + 1];
+    for (int i = 0; i < row.length - 1; i++) {
+      row[i] = group[i % group.length];
+    }
+    row[row.length - 1] = last;
+    return row;
+  }
+
+  private static void chain(String what, BitNotation codec, String digits, int last, int[] tale) {
+    String row = digits.replace(" ", "");
     wrong(codec, 15, -1, tale);
-    Due.answers("leastBits(15)", 17, () -> codec.leastBits(15));
-    Due.answers("write(15)", 17, () -> codec.write(15));
-    Due.bits("after write(15)", codec, "000000000000000 10");
-    Due.answers("read(15, 0)", 16, () -> codec.read(15, 0));
-    Due.tale("after read(15, 0)", codec, tale);
-    codec.flip(16);
-    Due.answers("faultAt(15, 0)", 15, () -> codec.faultAt(15, 0));
+    Due.answers("write(15) of " + what, row.length(), () -> codec.write(15));
+    Due.bits("after write(15) of " + what, codec, digits);
+    Due.answers("read(15, 3) of " + what, tale.length, () -> codec.read(15, 3));
+    Due.tale("after read(15, 3) of " + what, codec, tale);
+    codec.flip(row.length() - 1);
+    Due.answers("faultAt(15, 3) of " + what, last, () -> codec.faultAt(15, 3));
   }
 }

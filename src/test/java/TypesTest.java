@@ -189,6 +189,24 @@ public final class TypesTest {
     Due.refuses("addChoice() of an empty draft", STATE, codec::addChoice);
     Due.refuses("addSequence() of an empty draft", STATE, codec::addSequence);
     Due.answers("types()", 8, codec::types);
+    choicesOfUnequalTypes();
+  }
+
+  private static void choicesOfUnequalTypes() {
+    BitNotation codec = new BitNotation();
+    codec.addNumber(3, 3);
+    codec.addNumber(0, 3);
+    codec.addList(1, 1, 8);
+    codec.addNumber(0, 100);
+    draftOf(codec, 0, 0);
+    Due.answers("a choice of types without bits", 4, codec::addChoice);
+    sizes("a choice of types without bits", codec, 4, 1, 1);
+    draftOf(codec, 3, 2);
+    Due.answers("a choice of a number and a list", 5, codec::addChoice);
+    sizes("a choice of a number and a list", codec, 5, 6, 20);
+    draftOf(codec, 2, 3, 0);
+    Due.answers("a choice of a list, a number and nothing", 6, codec::addChoice);
+    sizes("a choice of a list, a number and nothing", codec, 6, 2, 21);
   }
 
   private static void limitsOfChoices() {
