@@ -261,7 +261,7 @@ public final class BitNotation {
     }
 
     int at(int index) {
-      return has(index) ? items[index] : 0;
+      return index >= 0 && index < count && index < items.length ? items[index] : 0;
     }
 
     void append(int item) {
